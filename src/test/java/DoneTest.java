@@ -32,6 +32,7 @@ final class DoneTest {
         begun();
         marked();
         undone();
+        undoneOrder();
         undoneOfEachKind();
         DUE.end();
     }
@@ -202,6 +203,10 @@ final class DoneTest {
         DUE.is("F below 4700 is DARK", x.island(0, 1), 0);
         ShedStages y = Due.laid("b1;p0,19,1,1;f0,49,0;f0,1,0;");
         DUE.is("tick(1) far below", y.tick(1), 2);
+        // 2110 by 7 is 301
+        ShedStages z = Due.laid("b1;p0,39,1,7;f0,50,0;f0,50,0;f0,50,0;f0,50,0;f0,50,0;");
+        DUE.is("tick(1) to 4699", z.tick(1), 5);
+        DUE.is("F 4699 is DARK", z.island(0, 1), 0);
     }
 
     private static void darkWithoutPlant() {
@@ -548,6 +553,20 @@ final class DoneTest {
         x.feeder(9, 0);
         x.feeder(0, 1);
         DUE.is("what is no change can not be undone", x.undo(), NO);
+    }
+
+    private static void undoneOrder() {
+        ShedStages x = new ShedStages();
+        x.feeder(2, 0);
+        x.feeder(0, 0);
+        x.feeder(3, 0);
+        x.feeder(2, 1);
+        DUE.is("the first left", x.dropped(1), 0);
+        x.undo();
+        int[] order = {3, 0, 2};
+        for (int k = 0; k < order.length; k++) {
+            DUE.is("dropped(" + k + ") as it was", x.dropped(k), order[k]);
+        }
     }
 
     private static void undoneOfEachKind() {

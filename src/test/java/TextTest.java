@@ -91,6 +91,9 @@ final class TextTest {
         faults("b3;l0;", 3);
         faults("b3;l0,;", 3);
         faults("b3;l,1;", 3);
+        faults("b3;l1,;", 3);
+        faults("b3;l1,0002;", NONE);
+        faults("b3;l1,00002;", 3);
         faults("b3;l0,1,;", 3);
         faults("b3;l0,1,2;", 3);
         faults("b3;l0,+1;", 3);
@@ -113,6 +116,7 @@ final class TextTest {
         faults("b3;r4900,1,1;", 3);
         faults("b3;x1;", 3);
         faults("b3;b3;", 3);
+        faults("b1;b1;", 3);
         faults("b3;l0,1;b3;", 8);
         for (String item : new String[] {"l0,1;", "p0,5,1,1;", "f0,5,0;", "s4800,1;", "r4900,1;"}) {
             faults(item, 0);
@@ -194,11 +198,12 @@ final class TextTest {
 
     private static void laidAnew() {
         ShedStages x = Due.laid("b2;l0,1;p0,10,1,1;f0,40,1;f1,1,0;s4990,9;");
-        x.mark(1, 4700);
+        x.mark(1, 4989);
         x.feeder(1, 0);
         x.tick(1);
         x.link(0, 0);
         DUE.is("count(10) ahead of lay()", x.count(10), 4);
+        DUE.is("counted(0, 1) ahead of lay()", x.counted(0, 1), 1);
         DUE.is("lay() anew", x.lay(), 1);
         int[] counts = {2, 1, 1, 2, 1, 1, 0, 0, 2, 41, 0, 41};
         for (int what = 0; what < counts.length; what++) {
