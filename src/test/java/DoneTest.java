@@ -279,7 +279,7 @@ final class DoneTest {
     }
 
     private static void droppedAndBackInOneTick() {
-        // F is 4990: below the STAGE's MARK, not below that of the way BACK
+        // F is 4998 then: below the STAGE's MARK, but not below that of the way BACK
         ShedStages x = Due.laid("b1;p0,49,9,1;p0,9,1,9;f0,50,0;f0,9,1;s4999,1;r4980,1;");
         DUE.is("LOAD", x.island(0, 2), 59);
         x.tick(1);
