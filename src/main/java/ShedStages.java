@@ -713,8 +713,15 @@ public final class ShedStages {
             return bits;
         }
 
+        /** A sum of its own: by feederBits, calls would go nine deep. */
         int loadOf(int root) {
-            return plan.loadOfSet(feederBits(root, true));
+            int sum = 0;
+            for (int f = 0; f < plan.feeders; f++) {
+                if (has(onSet, f) && roots[plan.feederBus[f]] == root) {
+                    sum += plan.load[f];
+                }
+            }
+            return sum;
         }
 
         int loadOfAll() {

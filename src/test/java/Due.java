@@ -20,6 +20,10 @@ final class Due {
         is(what, so ? 1 : 0, 1);
     }
 
+    int calls() {
+        return calls;
+    }
+
     void end() {
         System.out.println(test + ": " + calls + " answers, " + wrong + " not as due");
         if (wrong != 0) {

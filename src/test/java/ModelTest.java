@@ -152,39 +152,12 @@ final class ModelTest {
         }
         left--;
         told.add(name + "(" + a + ", " + b + ", " + c + ")");
-        int got = answer(name, a, b, c);
+        int got = Calls.answer(real, name, a, b, c);
         int want = model.call(name, a, b, c);
         due.is(name + "(" + a + ", " + b + ", " + c + ")", got, want);
         if (got != want) {
             System.out.println("the run: " + told);
             due.end();
         }
-    }
-
-    private int answer(String name, int a, int b, int c) {
-        return switch (name) {
-            case "write" -> real.write(a);
-            case "wipe" -> real.wipe();
-            case "fault" -> real.fault();
-            case "lay" -> real.lay();
-            case "tick" -> real.tick(a);
-            case "link" -> real.link(a, b);
-            case "feeder" -> real.feeder(a, b);
-            case "begin" -> real.begin(a);
-            case "mark" -> real.mark(a, b);
-            case "undo" -> real.undo();
-            case "island" -> real.island(a, b);
-            case "counted" -> real.counted(a, b);
-            case "at" -> real.at(a);
-            case "plant" -> real.plant(a);
-            case "isOn" -> real.isOn(a);
-            case "isClosed" -> real.isClosed(a);
-            case "dropped" -> real.dropped(a);
-            case "ahead" -> real.ahead(a, b, c);
-            case "least" -> real.least(a, b, c);
-            case "dark" -> real.dark(a);
-            case "count" -> real.count(a);
-            default -> throw new IllegalArgumentException(name);
-        };
     }
 }
