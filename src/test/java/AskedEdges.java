@@ -135,6 +135,8 @@ final class AskedEdges {
         // 20 are too much: 20 at once is less than 21, than 10 and 11, and fewer than 10 and 10
         edge.laid(text + "f0,21,1;f0,20,1;f0,10,1;f0,19,1;s4999,1;").due("least(0, 30, 0)", 2).due("least(0, 30, 1)", 20);
         edge.laid(text + "f0,10,1;f0,10,1;f0,20,1;f0,30,1;s4999,1;").due("least(0, 30, 0)", 4).due("least(0, 30, 1)", 20);
+        // fewest, be it that of the lower bits or of the higher ones
+        edge.laid(text + "f0,20,1;f0,10,1;f0,10,1;f0,30,1;s4999,1;").due("least(0, 30, 0)", 1).due("least(0, 30, 1)", 20);
         // less LOAD is ahead of fewer
         edge.laid(text + "f0,21,1;f0,10,1;f0,10,1;f0,29,1;s4999,1;").due("least(0, 30, 0)", 6).due("least(0, 30, 1)", 20);
         // of two of the same LOAD the lower one; of two pairs that of the least bits

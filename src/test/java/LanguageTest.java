@@ -4,7 +4,9 @@ import java.lang.reflect.Method;
 import java.lang.reflect.Modifier;
 import java.nio.file.Files;
 import java.nio.file.Path;
+import java.util.Map;
 import java.util.Set;
+import java.util.TreeMap;
 import java.util.TreeSet;
 import java.util.regex.Matcher;
 import java.util.regex.Pattern;
@@ -106,6 +108,36 @@ final class LanguageTest {
             DUE.holds("System." + system.group(1), system.group(1).equals("arraycopy"));
         }
         shortMethods(code);
+        callsEightDeep(code);
+    }
+
+    /** Methods are known by their names alone: of two that bear the same name, the calls of both count. */
+    private static void callsEightDeep(String code) {
+        Map<String, Set<String>> calls = new TreeMap<>();
+        Matcher method = Pattern.compile("(?m)^( {4}| {8})(?:\\w+ )*[\\w\\[\\]]+ (\\w+)\\(.*\\) \\{$((?s).*?)^\\1\\}$").matcher(code);
+        while (method.find()) {
+            Set<String> called = calls.computeIfAbsent(method.group(2), name -> new TreeSet<>());
+            Matcher call = Pattern.compile("\\b(\\w+)\\(").matcher(method.group(3));
+            while (call.find()) {
+                called.add(call.group(1));
+            }
+        }
+        for (String name : calls.keySet()) {
+            int deep = depth(calls, name, 1);
+            DUE.holds(name + " calls at most eight deep, not " + deep, deep <= 8);
+        }
+    }
+
+    private static int depth(Map<String, Set<String>> calls, String name, int level) {
+        int deepest = level;
+        if (calls.containsKey(name) && level < 20) {
+            for (String called : calls.get(name)) {
+                if (calls.containsKey(called)) {
+                    deepest = Math.max(deepest, depth(calls, called, level + 1));
+                }
+            }
+        }
+        return deepest;
     }
 
     /** A method's braces are those one step inside a class: two steps in the file, three inside another class. */

@@ -295,8 +295,10 @@ final class TextEdges {
                 faulty(edge, "b3;" + item.replace("#", number), 3);
             }
         }
-        for (String number : new String[] {"", "/", ":", "+2", "-2", "2,", ",2"}) {
+        for (String number : new String[] {"", "/", ":", "+2", "-2", "2,", ",2", "x"}) {
             faulty(edge, "b" + number + ";", 0);
+            // what was read ahead of it is not taken for it
+            edge.laid("b2;", "wipe()").tell("b" + number + ";").due("fault()", 0).refused("lay()", NO);
         }
     }
 
