@@ -20,6 +20,9 @@ final class LanguageTest {
             "ahead(int,int,int)", "least(int,int,int)", "dark(int)", "count(int)");
     private static final String[] RULED_OUT = {"throw", "throws", "try", "catch", "finally", "synchronized", "assert",
         "import", "package", "volatile", "native", "protected", "Object", "Random", "Thread", "Exception"};
+    /** Its indent, its name, its body. */
+    private static final Pattern METHOD =
+            Pattern.compile("(?m)^( {4}| {8})(?:\\w+ )*[\\w\\[\\]]+ (\\w+)\\(.*\\) \\{$((?s).*?)^\\1\\}$");
 
     public static void main(String[] args) throws Exception {
         constants();
@@ -109,12 +112,26 @@ final class LanguageTest {
         }
         shortMethods(code);
         callsEightDeep(code);
+        madeInConstructors(code);
+    }
+
+    /** Methods begin with a type and a name; constructors, which alone may make objects, with a name only. */
+    private static void madeInConstructors(String code) {
+        int methods = 0;
+        Matcher method = METHOD.matcher(code);
+        while (method.find()) {
+            if (!method.group(2).equals("ShedStages")) {
+                methods++;
+                DUE.holds(method.group(2) + " makes no object", !Pattern.compile("\\bnew\\b").matcher(method.group(3)).find());
+            }
+        }
+        DUE.holds("methods are found", methods > FACE.size());
     }
 
     /** Methods are known by their names alone: of two that bear the same name, the calls of both count. */
     private static void callsEightDeep(String code) {
         Map<String, Set<String>> calls = new TreeMap<>();
-        Matcher method = Pattern.compile("(?m)^( {4}| {8})(?:\\w+ )*[\\w\\[\\]]+ (\\w+)\\(.*\\) \\{$((?s).*?)^\\1\\}$").matcher(code);
+        Matcher method = METHOD.matcher(code);
         while (method.find()) {
             Set<String> called = calls.computeIfAbsent(method.group(2), name -> new TreeSet<>());
             Matcher call = Pattern.compile("\\b(\\w+)\\(").matcher(method.group(3));
